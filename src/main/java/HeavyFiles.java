@@ -253,9 +253,8 @@ public final class HeavyFiles {
         if (here == null || there == null) {
             return BAD;
         }
-        int wrong = wrongIn(here, HERE, there, THERE);
-        if (wrong != 0) {
-            return refused(wrong);
+        if (isWrong(here, HERE, there, THERE)) {
+            return FINDING;
         }
         scale.weigh(court, here.places, there.places, 0);
         asked = 2 * court.worths() - scale.score;
@@ -268,9 +267,8 @@ public final class HeavyFiles {
         if (here == null || there == null || court.suitOf(i) == null) {
             return BAD;
         }
-        int wrong = wrongIn(here, HERE, there, THERE);
-        if (wrong != 0) {
-            return refused(wrong);
+        if (isWrong(here, HERE, there, THERE)) {
+            return FINDING;
         }
         scale.weigh(court, here.places, there.places, 0);
         asked = scale.leads[i];
@@ -283,9 +281,8 @@ public final class HeavyFiles {
         if (there == null || target == null) {
             return BAD;
         }
-        int wrong = wrongIn(there, THERE, there, THERE);
-        if (wrong != 0) {
-            return refused(wrong);
+        if (isWrong(there, THERE)) {
+            return FINDING;
         }
         search.run(court, court.damp, there.places, court.stocks[HERE]);
         target.take(search.laying, court.size);
@@ -298,9 +295,8 @@ public final class HeavyFiles {
         if (there == null || v < 0 || v > GREATEST_SCORE) {
             return BAD;
         }
-        int wrong = wrongIn(there, THERE, there, THERE);
-        if (wrong != 0) {
-            return refused(wrong);
+        if (isWrong(there, THERE)) {
+            return FINDING;
         }
         search.run(court, court.damp, there.places, SUITS * SHEETS);
         int sheets = search.fewestFor(v);
@@ -318,9 +314,8 @@ public final class HeavyFiles {
         if (court.stocks[HERE] > MOST_FOR_WAYS) {
             return SPENT;
         }
-        int wrong = wrongIn(there, THERE, there, THERE);
-        if (wrong != 0) {
-            return refused(wrong);
+        if (isWrong(there, THERE)) {
+            return FINDING;
         }
         layings.begin(court.size, court.stocks[HERE]);
         int all = 0;
@@ -341,9 +336,8 @@ public final class HeavyFiles {
         if (here == null) {
             return BAD;
         }
-        int wrong = wrongIn(here, HERE, here, HERE);
-        if (wrong != 0) {
-            return refused(wrong);
+        if (isWrong(here, HERE)) {
+            return FINDING;
         }
         return dread.leastFor(court, here.places, MISSING);
     }
@@ -379,9 +373,8 @@ public final class HeavyFiles {
         if (isTooMuch(THERE)) {
             return SPENT;
         }
-        int wrong = wrongIn(first, HERE, second, HERE);
-        if (wrong != 0) {
-            return refused(wrong);
+        if (isWrong(first, HERE, second, HERE)) {
+            return FINDING;
         }
         mixing.weighAll(court, layings, first.places, second.places);
         fraction(mixing.leastBy(p, q), q);
@@ -397,9 +390,8 @@ public final class HeavyFiles {
         if (isTooMuch(THERE)) {
             return SPENT;
         }
-        int wrong = wrongIn(first, HERE, second, HERE);
-        if (wrong != 0) {
-            return refused(wrong);
+        if (isWrong(first, HERE, second, HERE)) {
+            return FINDING;
         }
         mixing.weighAll(court, layings, first.places, second.places);
         int parts = mixing.bestParts();
@@ -452,9 +444,8 @@ public final class HeavyFiles {
         if (set < 0 || set > ALL_LENDERS || there == null) {
             return BAD;
         }
-        int wrong = wrongIn(there, THERE, there, THERE);
-        if (wrong != 0) {
-            return refused(wrong);
+        if (isWrong(there, THERE)) {
+            return FINDING;
         }
         if (court.stockWith(set) > SHEETS) {
             return SPENT;
@@ -469,9 +460,8 @@ public final class HeavyFiles {
         if (there == null || shares == null) {
             return BAD;
         }
-        int wrong = wrongInShares(there, shares);
-        if (wrong != 0) {
-            return refused(wrong);
+        if (isWrongWithShares(there, shares)) {
+            return FINDING;
         }
         if (court.stockWith(ALL_LENDERS) > SHEETS) {
             return SPENT;
@@ -490,9 +480,8 @@ public final class HeavyFiles {
         if (l < 0 || l >= LENDERS || there == null) {
             return BAD;
         }
-        int wrong = wrongIn(there, THERE, there, THERE);
-        if (wrong != 0) {
-            return refused(wrong);
+        if (isWrong(there, THERE)) {
+            return FINDING;
         }
         if (court.stockWith(ALL_LENDERS) > SHEETS) {
             return SPENT;
@@ -515,9 +504,8 @@ public final class HeavyFiles {
         if (there == null) {
             return BAD;
         }
-        int wrong = wrongIn(there, THERE, there, THERE);
-        if (wrong != 0) {
-            return refused(wrong);
+        if (isWrong(there, THERE)) {
+            return FINDING;
         }
         int day = 0;
         int greatest = MISSING;
@@ -550,9 +538,8 @@ public final class HeavyFiles {
         if (here == null || won < 0 || won >= 1 << court.size) {
             return BAD;
         }
-        int wrong = wrongIn(here, HERE, here, HERE);
-        if (wrong != 0) {
-            return refused(wrong);
+        if (isWrong(here, HERE)) {
+            return FINDING;
         }
         if (court.notes >= NOTES) {
             return FULL;
@@ -783,25 +770,28 @@ public final class HeavyFiles {
         return 31 * h + v;
     }
 
-    /** The FINDING for two LAYINGS (or twice the same one), 0 if they are as told. */
-    private int wrongIn(Row a, int sideA, Row b, int sideB) {
-        if (a.isMissing() || b.isMissing()) {
-            return NOTHING;
-        }
-        if (a.size != court.size || b.size != court.size) {
-            return SIZE;
-        }
-        return court.allows(a, sideA) && court.allows(b, sideB) ? 0 : UNLIKE;
+    private boolean isWrong(Row laying, int side) {
+        return isWrong(laying, side, laying, side);
     }
 
-    private int wrongInShares(Row there, Row shares) {
-        if (there.isMissing() || shares.isMissing()) {
-            return NOTHING;
+    private boolean isWrong(Row a, int sideA, Row b, int sideB) {
+        boolean isThere = !a.isMissing() && !b.isMissing();
+        boolean hasSize = a.size == court.size && b.size == court.size;
+        return isRefused(isThere, hasSize, court.allows(a, sideA) && court.allows(b, sideB));
+    }
+
+    private boolean isWrongWithShares(Row there, Row shares) {
+        boolean isThere = !there.isMissing() && !shares.isMissing();
+        boolean hasSize = there.size == court.size && shares.size == LENDERS;
+        return isRefused(isThere, hasSize, court.allows(there, THERE) && shares.isWithin(MOST_SHARE));
+    }
+
+    private boolean isRefused(boolean isThere, boolean hasSize, boolean isAllowed) {
+        int wrong = !isThere ? NOTHING : !hasSize ? SIZE : !isAllowed ? UNLIKE : 0;
+        if (wrong != 0) {
+            refused(wrong);
         }
-        if (there.size != court.size || shares.size != LENDERS) {
-            return SIZE;
-        }
-        return court.allows(there, THERE) && shares.isWithin(MOST_SHARE) ? 0 : UNLIKE;
+        return wrong != 0;
     }
 
     /** What a set of LENDERS is worth, by the latest search. */
@@ -860,7 +850,7 @@ public final class HeavyFiles {
         }
 
         void take(int[] from, int n) {
-            size = Math.min(n, Math.min(from.length, places.length));
+            size = Math.max(0, Math.min(n, Math.min(from.length, places.length)));
             System.arraycopy(from, 0, places, 0, size);
         }
 
