@@ -323,6 +323,8 @@ public final class PromiseTest {
         due("FLY", x.mark(2, 2), 3);
         due("PILE as DAMP", x.mark(3, 3), 14);
         due("PILE", x.mark(3, 4), 3);
+        x.stock(0, 40);
+        due("PILE", x.mark(3, 4), 5);
         due("DAMP", x.mark(5, 3), 6);
         due("HANGING: none hangs on it", x.mark(1, 5), 0);
         write(x, 1, "n9:25 o1 h20 h31 h41");
@@ -442,6 +444,10 @@ public final class PromiseTest {
         lay(x, 1, 40, 0, 0);
         due("more than 40 on none", x.fewest(1, 20), NONE);
         due("40 make it even", x.fewest(1, 19), 44);
+        HeavyFiles y = with("n0:40 s9 s9 s9 s9 s9 p99");
+        lay(y, 0, 0, 0, 0, 39, 1, 0);
+        due("fewest(0, 108)", y.fewest(0, 108), 1 + 1 + 1 + 40 + 2 + 9);
+        due("fewest(0, 108), asked()", y.asked(), 108);
         due("fewest(1, 109)", x.fewest(1, 109), BAD);
         due("fewest(1, -1)", x.fewest(1, -1), BAD);
         refusesLayings("fewest", 1, (z, r) -> z.fewest(r, 4));
@@ -457,6 +463,11 @@ public final class PromiseTest {
         fraction(x, "ways(1, 4)", 1, 6);
         due("ways(1, 5)", x.ways(1, 5), 0);
         fraction(x, "ways(1, 5)", 0, 1);
+        HeavyFiles y = with("n6:1 o9 o9 o9 o9 o9 o9");
+        lay(y, 0, 0, 0, 0, 0, 0, 1);
+        // all but those that leave the last one bare: C(12, 6) less C(11, 5)
+        due("ways(0, 108)", y.ways(0, 108), 462);
+        fraction(y, "ways(0, 108)", 1, 2);
         x.stock(0, 13);
         due("ways(6, 1)", x.ways(6, 1), BAD);
         due("ways(1, 109)", x.ways(1, 109), BAD);
@@ -536,6 +547,12 @@ public final class PromiseTest {
         lay(x, 2, 0, 0);
         due("mix(0, 2)", x.mix(0, 2), 12);
         due("mix(2, 0)", x.mix(2, 0), 0);
+        HeavyFiles y = with("n4:1 o7 f1 o1");
+        lay(y, 0, 0, 0, 0);
+        lay(y, 1, 1, 2, 0);
+        // against none 17, 16; on the first 3, 16; on the last 15, 14
+        due("mix(0, 1): one of 12", y.mix(0, 1), 1);
+        fraction(y, "mix(0, 1)", 169, 12);
         x.stock(1, 11);
         due("mix(6, 0)", x.mix(6, 0), BAD);
         due("mix(5, 0)", x.mix(5, 0), SPENT);
@@ -563,6 +580,8 @@ public final class PromiseTest {
         due("turns(): 1 against 15", x.asked(), -10);
         x.stock(0, 16);
         due("turns()", x.turns(), SPENT);
+        x.stock(0, 15);
+        due("turns(): 15 against 15", x.turns() >= 0 ? 1 : 0, 1);
         HeavyFiles none = with("n1:1");
         none.row(0, 1);
         none.lay(0, 0, 7);
@@ -680,6 +699,9 @@ public final class PromiseTest {
         lay(x, 5, 6, 6, 6, -1);
         finds(x, "leaves(1, 5)", x.leaves(1, 5), UNLIKE);
         x.lender(3, 20);
+        x.stock(0, 16);
+        lay(x, 0, 0, 0, 0, 0);
+        due("40 in all, of no use", x.leaves(1, 0), 0);
         x.stock(0, 17);
         finds(x, "leaves(1, 5)", x.leaves(1, 5), UNLIKE);
         due("leaves(1, 0)", x.leaves(1, 0), SPENT);
@@ -703,6 +725,8 @@ public final class PromiseTest {
         due("adds(0, 1)", y.adds(0, 1), 1);
         fraction(y, "adds(0, 1)", 10, 1);
         y.lender(3, 20);
+        y.stock(0, 14);
+        due("40 in all", y.adds(0, 1), 1);
         y.stock(0, 15);
         due("adds(4, 1)", y.adds(4, 1), BAD);
         finds(y, "adds(0, 5)", y.adds(0, 5), NOTHING);
