@@ -1299,7 +1299,7 @@ public final class HeavyFiles {
             Arrays.fill(greatest, MISSING);
             Arrays.fill(laying, 0);
             Arrays.fill(laid, 0);
-            branch(court, other, 0, 0, 0);
+            branch(this, court, other, 0, 0, 0);
         }
 
         /** The greatest SCORE by so many SHEETS or fewer. */
@@ -1320,18 +1320,18 @@ public final class HeavyFiles {
             return NONE;
         }
 
-        private void branch(Court court, int[] other, int i, int used, int gained) {
+        private static void branch(Search in, Court court, int[] other, int i, int used, int gained) {
             Suit suit = court.suitOf(i);
             if (suit == null || i >= SUITS || i >= other.length) {
-                close(used, gained);
+                in.close(used, gained);
                 return;
             }
             for (int winner = 0; winner < WINNERS; winner++) {
-                int need = court.need(i, HERE, winner, other[i], dampness, winners);
-                if (need >= 0 && need <= SHEETS && used + need <= limit) {
-                    winners[i] = winner;
-                    laid[i] = need;
-                    branch(court, other, i + 1, used + need, gained + suit.points(HERE, winner));
+                int need = court.need(i, HERE, winner, other[i], in.dampness, in.winners);
+                if (need >= 0 && need <= SHEETS && used + need <= in.limit) {
+                    in.winners[i] = winner;
+                    in.laid[i] = need;
+                    branch(in, court, other, i + 1, used + need, gained + suit.points(HERE, winner));
                 }
             }
         }
@@ -1367,25 +1367,25 @@ public final class HeavyFiles {
         int leastFor(Court court, int[] own, int floor) {
             least = MANY;
             enough = floor;
-            branch(court, own, 0, court.stocks[THERE], 0);
+            branch(this, court, own, 0, court.stocks[THERE], 0);
             return least;
         }
 
-        private void branch(Court court, int[] own, int i, int left, int gained) {
+        private static void branch(Dread in, Court court, int[] own, int i, int left, int gained) {
             // nothing that follows can make it less, or less is of no use
-            if (gained >= least || least <= enough) {
+            if (gained >= in.least || in.least <= in.enough) {
                 return;
             }
             Suit suit = court.suitOf(i);
             if (suit == null || i >= SUITS || i >= own.length) {
-                least = gained;
+                in.least = gained;
                 return;
             }
             for (int winner = 0; winner < WINNERS; winner++) {
-                int need = court.need(i, THERE, winner, own[i], court.damp, winners);
+                int need = court.need(i, THERE, winner, own[i], court.damp, in.winners);
                 if (need >= 0 && need <= left) {
-                    winners[i] = winner;
-                    branch(court, own, i + 1, left - need, gained + suit.points(HERE, winner));
+                    in.winners[i] = winner;
+                    branch(in, court, own, i + 1, left - need, gained + suit.points(HERE, winner));
                 }
             }
         }

@@ -17,9 +17,11 @@ public final class RandomRunsTest {
     private final List<String> calls = new ArrayList<>();
     private int suits;
     private boolean differs;
+    private final int seldom;
 
     private RandomRunsTest(long seed) {
         random = new Random(seed);
+        seldom = seed % 10 == 0 ? 5 : 60;
     }
 
     private static Object invoke(Object on, String name, int[] with) throws ReflectiveOperationException {
@@ -59,7 +61,7 @@ public final class RandomRunsTest {
 
     /** A number below a bound, seldom one that is none. */
     private int below(int bound) {
-        if (random.nextInt(60) == 0) {
+        if (random.nextInt(seldom) == 0) {
             return FAR[random.nextInt(FAR.length)];
         }
         return bound <= 0 ? 0 : random.nextInt(bound);
