@@ -460,7 +460,7 @@ public final class HeavyFiles {
         if (there == null || shares == null) {
             return BAD;
         }
-        if (isWrongWithShares(there, shares)) {
+        if (isWrong(there, THERE) || areWrongShares(shares)) {
             return FINDING;
         }
         if (court.stockWith(ALL_LENDERS) > SHEETS) {
@@ -780,10 +780,8 @@ public final class HeavyFiles {
         return isRefused(isThere, hasSize, court.allows(a, sideA) && court.allows(b, sideB));
     }
 
-    private boolean isWrongWithShares(Row there, Row shares) {
-        boolean isThere = !there.isMissing() && !shares.isMissing();
-        boolean hasSize = there.size == court.size && shares.size == LENDERS;
-        return isRefused(isThere, hasSize, court.allows(there, THERE) && shares.isWithin(MOST_SHARE));
+    private boolean areWrongShares(Row shares) {
+        return isRefused(!shares.isMissing(), shares.size == LENDERS, shares.isWithin(MOST_SHARE));
     }
 
     private boolean isRefused(boolean isThere, boolean hasSize, boolean isAllowed) {
