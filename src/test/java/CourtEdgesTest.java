@@ -43,7 +43,8 @@ public final class CourtEdgesTest extends Edges {
         faults("Terms 1: STOCKS of one figure", "n0:0", NONE, "n9:9", NONE, "n0:9s1", NONE);
         faults("Terms 1: STOCKS of two figures", "n00:00", NONE, "n09:01", NONE, "n40:40", NONE, "n10:39", NONE);
         faults("Terms 1: STOCKS of no three figures", "n001:1", 3, "n400:1", 3, "n1:001", 5, "n1:400", 5, "n1:0400", 5);
-        faults("Terms 1: a STOCK out of these: the place behind", "n41:1", 3, "n99:1", 3, "n41", 3, " n50x", 4, "n410:1", 3);
+        faults("Terms 1: a STOCK out of these: the place behind", "n41:1", 3, "n99:1", 3, "n41", 3, " n50x", 4,
+            "n410:1", 3);
         faults("Terms 1: the other STOCK out of these: the place behind",
             "n1:41", 5, "n1:99", 5, "n40:41 s1", 6, "n1:411", 5, "n1:50x", 5);
         says("Terms 1: each STOCK out of these, and none that is of these", z -> {
@@ -61,10 +62,11 @@ public final class CourtEdgesTest extends Edges {
         faults("Terms 1: SUITS, none, too", "n1:2", NONE, "n1:2  ", NONE);
         faults("Terms 1: SUITS, 6 at most", "n1:2s1s1s1s1s1s1", NONE, "n1:2 s1 o1 f1 d11 p11 h10", NONE);
         faults("Terms 1: a seventh SUIT: its letter",
-            "n1:2s1s1s1s1s1s1s1", 16, "n1:2s1s1s1s1s1s1  s1", 18, "n1:2s1s1s1s1s1s1s", 16, "n1:2d11d11d11d11d11d11o", 22);
+            "n1:2s1s1s1s1s1s1s1", 16, "n1:2s1s1s1s1s1s1  s1", 18, "n1:2s1s1s1s1s1s1s", 16,
+            "n1:2d11d11d11d11d11d11o", 22);
         faults("Terms 1: a letter that is none such: its place",
-            "n1:2 a1", 5, "n1:2 S1", 5, "n1:2 n1", 5, "n1:2 s1x", 7, "n1:2s1 9", 7, "n1:2s1s1s1s1s1s1x", 16, "n1:2 :", 5,
-            "n1:2 \u00f31", 5);
+            "n1:2 a1", 5, "n1:2 S1", 5, "n1:2 n1", 5, "n1:2 s1x", 7, "n1:2s1 9", 7, "n1:2s1s1s1s1s1s1x", 16,
+            "n1:2 :", 5, "n1:2 \u00f31", 5);
         says("Terms 1: letters s, o, f, d, p, h alone", z -> {
             for (int sign = -128; sign < 128; sign++) {
                 HeavyFiles x = new HeavyFiles();
@@ -79,20 +81,25 @@ public final class CourtEdgesTest extends Edges {
         faults("Terms 1: WORTH 1 .. 9", "n1:2 s1", NONE, "n1:2 s9", NONE, "n1:2 s0", 6, "n1:2 o0", 6, "n1:2 d01", 6,
             "n1:2 p01", 6, "n1:2s1h00", 7);
         faults("Terms 1: WORTH is a figure", "n1:2 s/", 6, "n1:2 s:", 6, "n1:2 ss1", 6, "n1:2 f-1", 6, "n1:2 h", 6);
-        faults("Terms 1: WORTH of one figure", "n1:2 s10", 7, "n1:2 o11", 7, "n1:2 f99", 7, "n1:2 d123", 8, "n1:2s1h103", 9);
+        faults("Terms 1: WORTH of one figure", "n1:2 s10", 7, "n1:2 o11", 7, "n1:2 f99", 7, "n1:2 d123", 8,
+            "n1:2s1h103", 9);
         faults("Terms 1: of d, p, h one figure more", "n1:2 dx", 6, "n1:2 d1x", 7, "n1:2 d1d11", 7, "n1:2 p5s1", 7,
             "n1:2s1h1s1", 8);
     }
 
     private static void figures() {
-        faults("Terms 1: DAMP: k 1 .. 9", "n1:2 d11", NONE, "n1:2 d19", NONE, "n1:2 d10", 7, "n1:2 d1:", 7, "n1:2 d1/", 7);
-        faults("Terms 1: PILE: k 1 .. 9", "n1:2 p11", NONE, "n1:2 p19", NONE, "n1:2 p10", 7, "n1:2 p1:", 7, "n1:2 p1/", 7);
+        faults("Terms 1: DAMP: k 1 .. 9", "n1:2 d11", NONE, "n1:2 d19", NONE, "n1:2 d10", 7, "n1:2 d1:", 7,
+            "n1:2 d1/", 7);
+        faults("Terms 1: PILE: k 1 .. 9", "n1:2 p11", NONE, "n1:2 p19", NONE, "n1:2 p10", 7, "n1:2 p1:", 7,
+            "n1:2 p1/", 7);
         faults("Terms 1: HANGING: j the number of a SUIT told ahead",
             "n1:2 s1h10", NONE, "n1:2 s1s1h11", NONE, "n1:2s1s1s1s1s1h14", NONE, "n1:2s1h10h11", NONE);
         faults("Terms 1: HANGING: j is no SUIT told ahead: its own number, one behind",
-            "n1:2 h10", 7, "n1:2 s1h11", 9, "n1:2 s1h12", 9, "n1:2s1s1h12s1", 10, "n1:2s1s1s1s1s1h15", 16, "n1:2s1h19", 8);
+            "n1:2 h10", 7, "n1:2 s1h11", 9, "n1:2 s1h12", 9, "n1:2s1s1h12s1", 10, "n1:2s1s1s1s1s1h15", 16,
+            "n1:2s1h19", 8);
         faults("Terms 1: the TEXT's size, if its end comes too early",
-            "", 0, "n", 1, "n1", 2, "n40", 3, "n1:", 3, "n1:2 s", 6, "n1:2 d", 6, "n1:2 d1", 7, "n1:2 p1", 7, "n1:2 s1 h1", 10,
+            "", 0, "n", 1, "n1", 2, "n40", 3, "n1:", 3, "n1:2 s", 6, "n1:2 d", 6, "n1:2 d1", 7, "n1:2 p1", 7,
+            "n1:2 s1 h1", 10,
             "n1:2s1f", 7);
         says("Terms 1: the TEXT's size of 80, if its end comes too early", x -> {
             x.text(0, 80);
@@ -131,7 +138,8 @@ public final class CourtEdgesTest extends Edges {
             tells(x, x.suit(0, 0), 0);
             due(x.count(0), 4);
         });
-        says("10: BAD", x -> refuses(x, BAD, () -> x.fault(-1), () -> x.fault(4), () -> x.fault(LOW), () -> x.fault(HIGH)));
+        says("10: BAD", x -> refuses(x, BAD, () -> x.fault(-1), () -> x.fault(4), () -> x.fault(LOW),
+            () -> x.fault(HIGH)));
         says("10: NOTHING: the TEXT is missing", x -> {
             x.text(1, 4);
             finds(x, NOTHING, () -> x.fault(0), () -> x.fault(2), () -> x.fault(3));
@@ -319,6 +327,13 @@ public final class CourtEdgesTest extends Edges {
             x.stock(1, 0);
             due(x.mark(0, 4), 0);
         });
+        says("13: a PILE of 1, of 9", x -> {
+            court(x, "n40:0 p11 p19");
+            due(x.mark(0, 4), 40);
+            due(x.mark(1, 4), 4);
+            x.stock(0, 8);
+            due(x.mark(1, 4), 0);
+        });
         says("13: a HANGING one how many SUITS hang on it", x -> {
             court(x, "n1:1 s1 h10 h11 h11 h10 h12");
             due(x.mark(1, 5), 2);
@@ -344,8 +359,8 @@ public final class CourtEdgesTest extends Edges {
         });
         says("13: UNLIKE: a SUIT of another KIND", z -> {
             boolean[][] is = {{false, false, false, false, false}, {true, false, false, false, false},
-                {false, true, false, false, false}, {false, false, true, false, false}, {false, false, true, true, false},
-                {true, false, false, false, true}};
+                {false, true, false, false, false}, {false, false, true, false, false},
+                {false, false, true, true, false}, {true, false, false, false, true}};
             for (int i = 0; i < 6; i++) {
                 HeavyFiles x = with(SIX);
                 int suit = i;

@@ -222,6 +222,17 @@ abstract class Edges {
             x.stock(side, 0);
             takes(what.by(x, 0));
         });
+        says(call + " taken, it leaves finding(), findings()", z -> {
+            HeavyFiles x = small();
+            lay(x, 0, 0, 0, 0, stock);
+            x.at(0, 4);
+            takes(what.by(x, 0));
+            due(x.finding(), BEYOND);
+            int[] all = {0, 1, 0, 0, 0};
+            for (int f = 1; f <= SIZE; f++) {
+                due(x.findings(f), all[f - 1]);
+            }
+        });
         says(call + " goes by the STOCK of SIDE " + side + " as it is now", z -> {
             HeavyFiles x = small();
             lay(x, 0, 2, 0, 1, 1);

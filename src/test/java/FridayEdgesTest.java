@@ -233,6 +233,18 @@ public final class FridayEdgesTest extends Edges {
             both(x, x.best(0, 1), 12, 1);
             holds(x, 1, 1, 0);
         });
+        says("18: a HANGING one, if the other SIDE won SUIT j, if nobody did", z -> {
+            HeavyFiles x = with("n3:9 s1 h50");
+            lay(x, 0, 5, 1);
+            both(x, x.best(0, 1), 10, 3);
+            holds(x, 1, 0, 3);
+            x.stock(0, 2);
+            both(x, x.best(0, 1), 0, 0);
+            HeavyFiles y = with("n9:9 f1 h50");
+            lay(y, 0, 0, 4);
+            both(y, y.best(0, 1), 11, 4);
+            holds(y, 1, 0, 4);
+        });
         bestRows();
     }
 
@@ -341,7 +353,8 @@ public final class FridayEdgesTest extends Edges {
         });
         says("19: BAD: v below 0, above 108", z -> {
             HeavyFiles x = small();
-            refuses(x, BAD, () -> x.fewest(5, -1), () -> x.fewest(5, 109), () -> x.fewest(5, LOW), () -> x.fewest(5, HIGH));
+            refuses(x, BAD, () -> x.fewest(5, -1), () -> x.fewest(5, 109), () -> x.fewest(5, LOW),
+                () -> x.fewest(5, HIGH));
         });
         says("19: BAD ahead of NOTHING", z -> {
             HeavyFiles x = small();
@@ -684,6 +697,16 @@ public final class FridayEdgesTest extends Edges {
             fraction(x, 6, 1);
             due(x.mix(1, 0), 0);
             fraction(x, 6, 1);
+        });
+        says("24: p 1, p 11", z -> {
+            HeavyFiles x = with("n4:1 o7 f1 o1");
+            lay(x, 0, 0, 0, 0);
+            lay(x, 1, 1, 2, 0);
+            // against none 17, 16; one on the first 3, 16; on the last 15, 14
+            due(x.mix(0, 1), 1);
+            fraction(x, 169, 12);
+            due(x.mix(1, 0), 11);
+            fraction(x, 169, 12);
         });
         says("24: no SUITS: 0; 0 by 1", x -> {
             x.row(0, 0);

@@ -147,7 +147,8 @@ public final class RowEdgesTest extends Edges {
         });
         says("3: BAD", x -> {
             lay(x, 0, 1);
-            refuses(x, BAD, () -> x.lay(-1, 0, 1), () -> x.lay(6, 0, 1), () -> x.lay(LOW, 0, 1), () -> x.lay(HIGH, 0, 1));
+            refuses(x, BAD, () -> x.lay(-1, 0, 1), () -> x.lay(6, 0, 1), () -> x.lay(LOW, 0, 1),
+                () -> x.lay(HIGH, 0, 1));
         });
         says("3: BAD ahead of BEYOND", x -> refuses(x, BAD, () -> x.lay(-1, -1, 1), () -> x.lay(6, 99, 1)));
         says("3: NOTHING: the ROW is missing", x -> {
@@ -158,7 +159,8 @@ public final class RowEdgesTest extends Edges {
         says("3: NOTHING ahead of BEYOND", x -> finds(x, NOTHING, () -> x.lay(0, -1, 1), () -> x.lay(0, 40, 1)));
         says("3: BEYOND: behind the last place", x -> {
             lay(x, 0, 1, 2, 3);
-            finds(x, BEYOND, () -> x.lay(0, 3, 1), () -> x.lay(0, 39, 1), () -> x.lay(0, 40, 1), () -> x.lay(0, HIGH, 1));
+            finds(x, BEYOND, () -> x.lay(0, 3, 1), () -> x.lay(0, 39, 1), () -> x.lay(0, 40, 1),
+                () -> x.lay(0, HIGH, 1));
             tells(x, x.lay(0, 2, 4), 3);
         });
         says("3: BEYOND: ahead of the first place", x -> {
@@ -514,14 +516,16 @@ public final class RowEdgesTest extends Edges {
         });
         says("9: BAD", x -> {
             write(x, 0, "a");
-            refuses(x, BAD, () -> x.put(-1, 0, 1), () -> x.put(4, 0, 1), () -> x.put(LOW, 0, 1), () -> x.put(HIGH, 0, 1));
+            refuses(x, BAD, () -> x.put(-1, 0, 1), () -> x.put(4, 0, 1), () -> x.put(LOW, 0, 1),
+                () -> x.put(HIGH, 0, 1));
         });
         says("9: BAD ahead of BEYOND", x -> refuses(x, BAD, () -> x.put(-1, -1, 1), () -> x.put(4, 99, 1)));
         says("9: NOTHING: the TEXT is missing", x -> finds(x, NOTHING, () -> x.put(0, 0, 1), () -> x.put(3, 0, 1)));
         says("9: NOTHING ahead of BEYOND", x -> finds(x, NOTHING, () -> x.put(0, -1, 1), () -> x.put(0, 80, 1)));
         says("9: BEYOND: behind the last byte", x -> {
             write(x, 0, "abc");
-            finds(x, BEYOND, () -> x.put(0, 3, 1), () -> x.put(0, 79, 1), () -> x.put(0, 80, 1), () -> x.put(0, HIGH, 1));
+            finds(x, BEYOND, () -> x.put(0, 3, 1), () -> x.put(0, 79, 1), () -> x.put(0, 80, 1),
+                () -> x.put(0, HIGH, 1));
             due(x.put(0, 2, 1), 1000 + 'c');
         });
         says("9: BEYOND: ahead of the first byte", x -> {

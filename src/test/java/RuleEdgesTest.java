@@ -158,7 +158,8 @@ public final class RuleEdgesTest extends Edges {
             finds(x, NOUGHT, () -> x.rule(0, 0), () -> x.rule(5, 0), () -> x.rule(2, 5));
             holds(x, 0, 1);
         });
-        says("33: BAD ahead of NOUGHT", x -> refuses(x, BAD, () -> x.rule(6, 0), () -> x.rule(0, 6), () -> x.rule(-1, 0)));
+        says("33: BAD ahead of NOUGHT", x -> refuses(x, BAD, () -> x.rule(6, 0), () -> x.rule(0, 6),
+            () -> x.rule(-1, 0)));
     }
 
     private static void note() {
@@ -284,10 +285,19 @@ public final class RuleEdgesTest extends Edges {
             x.stock(1, 0);
             both(x, x.rules(), ALL_RULES, 1);
         });
-        says("36: all six unlike", z -> {
+        says("36: all six unlike, behind tell(), too", z -> {
             HeavyFiles x = with("n9:7 s2 s3 s1");
             // (3,2,2) (3,3,1) (7,0,0) (0,0,7) (0,7,0) (0,0,0)
             both(x, x.rules(), ALL_RULES, 6);
+            x.tell(0);
+            both(x, x.rules(), ALL_RULES, 6);
+        });
+        says("36: how many of those that FIT tell unlike LAYINGS", z -> {
+            HeavyFiles x = with("n6:6 s3 s1");
+            lay(x, 0, 4, 2);
+            x.note(0, 2);
+            // WORTH (5, 1); FIRST, GREAT, both (6, 0)
+            both(x, x.rules(), 2 | 4 | 16, 2);
         });
         says("Terms 3: a RULE FITS, if just these are WON, no more, no fewer", z -> {
             HeavyFiles x = with("n6:6 s1 s3");
@@ -394,6 +404,15 @@ public final class RuleEdgesTest extends Edges {
             both(x, x.reply(2), 6, 5);
             holds(x, 2, 0, 3);
         });
+        says("37: by the STOCK of SIDE 0", z -> {
+            HeavyFiles x = with("n3:6 s1 s3");
+            // EVEN (3,3): 3 make the second even
+            both(x, x.reply(2), 3, 0);
+            holds(x, 2, 0, 3);
+            x.stock(0, 7);
+            both(x, x.reply(2), 7, 0);
+            holds(x, 2, 3, 4);
+        });
         says("37: it comes to a ROW anew", z -> {
             HeavyFiles x = with("n6:6 s1 s3");
             lay(x, 2, 9, 9, 9, 9);
@@ -458,6 +477,21 @@ public final class RuleEdgesTest extends Edges {
             due(x.rules(), 8 | 16);
             due(x.tell(0), 1);
             holds(x, 0, 0, 0);
+        });
+        says("38: EVEN, WORTH told apart", z -> {
+            HeavyFiles x = with("n3:4 s1 s3");
+            lay(x, 0, 1, 2);
+            x.note(0, 0);
+            // (2,2), (1,3): 3 on the second win it against EVEN alone
+            both(x, x.rules(), 1 | 2, 2);
+            due(x.tell(2), 2);
+            holds(x, 2, 0, 3);
+        });
+        says("38: by the STOCK of SIDE 0", z -> {
+            HeavyFiles x = with("n1:4 s1 s3");
+            // (0, 1) wins nothing against LAST, the second against FIRST
+            due(x.tell(2), 2);
+            holds(x, 2, 0, 1);
         });
         says("38: no STOCK", z -> {
             HeavyFiles x = with("n0:2 o1 f1");

@@ -60,6 +60,14 @@ public final class TurnEdgesTest extends Edges {
             court(x, "n9:3 o3");
             both(x, x.turns(), 3, 6);
         });
+        says("25: it goes by SUIT 0, whatever was asked of another one", x -> {
+            court(x, "n3:2 o3 f2");
+            both(x, x.turns(), 2, 6);
+            x.answer(1, 3, 3, 3);
+            both(x, x.turns(), 2, 6);
+            x.from(1, 3, 3);
+            both(x, x.turns(), 2, 6);
+        });
         says("25: nothing is of use: none", x -> {
             court(x, "n3:4 s3");
             both(x, x.turns(), 0, -6);
@@ -142,15 +150,18 @@ public final class TurnEdgesTest extends Edges {
         });
         says("26: BAD: a SUIT below 0, above how many there are", z -> {
             HeavyFiles x = small();
-            refuses(x, BAD, () -> x.from(-1, 0, 0), () -> x.from(5, 0, 0), () -> x.from(LOW, 0, 0), () -> x.from(HIGH, 0, 0));
+            refuses(x, BAD, () -> x.from(-1, 0, 0), () -> x.from(5, 0, 0), () -> x.from(LOW, 0, 0),
+                () -> x.from(HIGH, 0, 0));
         });
         says("26: BAD: SHEETS below 0", z -> {
             HeavyFiles x = small();
-            refuses(x, BAD, () -> x.from(0, -1, 0), () -> x.from(0, 0, -1), () -> x.from(4, LOW, 0), () -> x.from(0, 0, LOW));
+            refuses(x, BAD, () -> x.from(0, -1, 0), () -> x.from(0, 0, -1), () -> x.from(4, LOW, 0),
+                () -> x.from(0, 0, LOW));
         });
         says("26: BAD: SHEETS above 15", z -> {
             HeavyFiles x = small();
-            refuses(x, BAD, () -> x.from(0, 16, 0), () -> x.from(0, 0, 16), () -> x.from(4, HIGH, 0), () -> x.from(0, 0, HIGH));
+            refuses(x, BAD, () -> x.from(0, 16, 0), () -> x.from(0, 0, 16), () -> x.from(4, HIGH, 0),
+                () -> x.from(0, 0, HIGH));
         });
     }
 
@@ -160,6 +171,12 @@ public final class TurnEdgesTest extends Edges {
             due(x.answer(1, 2, 4, 2), 3);
             due(x.answer(1, 2, 2, 2), 0);
             due(x.answer(0, 2, 5, 2), 3);
+        });
+        says("27: of two that are alike the fewer", x -> {
+            court(x, "n0:0 s3 s3");
+            // to win the first or the second one
+            due(x.answer(0, 1, 1, 1), 0);
+            due(x.answer(0, 2, 2, 2), 0);
         });
         says("27: none is best, if nothing is of use", x -> {
             court(x, "n0:0 s3");
@@ -218,10 +235,12 @@ public final class TurnEdgesTest extends Edges {
             due(x.lender(2, 1), 0);
         });
         says("28: BAD: a LENDER that there is not", x ->
-            refuses(x, BAD, () -> x.lender(-1, 1), () -> x.lender(4, 1), () -> x.lender(LOW, 1), () -> x.lender(HIGH, 1)));
+            refuses(x, BAD, () -> x.lender(-1, 1), () -> x.lender(4, 1), () -> x.lender(LOW, 1),
+                () -> x.lender(HIGH, 1)));
         says("28: BAD: SHEETS below 0, above 20", x -> {
             x.lender(2, 5);
-            refuses(x, BAD, () -> x.lender(2, -1), () -> x.lender(2, 21), () -> x.lender(2, LOW), () -> x.lender(2, HIGH));
+            refuses(x, BAD, () -> x.lender(2, -1), () -> x.lender(2, 21), () -> x.lender(2, LOW),
+                () -> x.lender(2, HIGH));
             due(x.lender(2, 0), 5);
         });
     }
@@ -395,7 +414,8 @@ public final class TurnEdgesTest extends Edges {
             }
         });
         says("30: UNLIKE: either: a share below 0, above 999", z -> {
-            int[][] all = {{-1, 0, 0, 0}, {0, 0, 0, -1}, {0, 1000, 0, 0}, {0, 0, 0, 1000}, {LOW, 0, 0, 0}, {0, 0, HIGH, 0}};
+            int[][] all = {{-1, 0, 0, 0}, {0, 0, 0, -1}, {0, 1000, 0, 0}, {0, 0, 0, 1000}, {LOW, 0, 0, 0},
+                {0, 0, HIGH, 0}};
             for (int[] one : all) {
                 HeavyFiles x = lent(1, 1, 1, 1);
                 lay(x, 0, one);
