@@ -460,7 +460,7 @@ public final class HeavyFiles {
         if (there == null || shares == null) {
             return BAD;
         }
-        if (isWrong(there, THERE) || areWrongShares(shares)) {
+        if (areWrong(there, shares)) {
             return FINDING;
         }
         if (court.stockWith(ALL_LENDERS) > SHEETS) {
@@ -780,8 +780,10 @@ public final class HeavyFiles {
         return isRefused(isThere, hasSize, court.allows(a, sideA) && court.allows(b, sideB));
     }
 
-    private boolean areWrongShares(Row shares) {
-        return isRefused(!shares.isMissing(), shares.size == LENDERS, shares.isWithin(MOST_SHARE));
+    private boolean areWrong(Row laying, Row shares) {
+        boolean isThere = !laying.isMissing() && !shares.isMissing();
+        boolean hasSize = laying.size == court.size && shares.size == LENDERS;
+        return isRefused(isThere, hasSize, court.allows(laying, THERE) && shares.isWithin(MOST_SHARE));
     }
 
     private boolean isRefused(boolean isThere, boolean hasSize, boolean isAllowed) {

@@ -755,9 +755,9 @@ final class PlainFiles {
     public int leaves(int other, int r) {
         return call(() -> {
             badRow(other, r);
+            find(rows[other] == null || rows[r] == null, 1);
+            find(rows[other].length != suits.size() || rows[r].length != 4, 5);
             laying(other, 1);
-            find(rows[r] == null, 1);
-            find(rows[r].length != 4, 5);
             find(Arrays.stream(rows[r]).anyMatch(v -> v < 0 || v > 999), 3);
             refuse(sheetsWith(15) > 40, -6);
             for (int set = 1; set <= 15; set++) {

@@ -203,9 +203,10 @@ public final class RandomRunsTest {
     private int makeShares() throws ReflectiveOperationException {
         int r = random.nextInt(6);
         if (random.nextInt(4) > 0) {
-            call("row", r, 4);
-            for (int l = 0; l < 4; l++) {
-                call("lay", r, l, below(14));
+            int n = random.nextInt(8) == 0 ? below(6) : 4;
+            call("row", r, n);
+            for (int l = 0; l < n; l++) {
+                call("lay", r, l, random.nextInt(24) == 0 ? 990 + below(20) : below(14));
             }
         }
         return r;

@@ -1,3 +1,5 @@
+import java.util.Arrays;
+
 /** The edges of promises 25 to 31, a sentence each: suits in turn, lenders. */
 public final class TurnEdgesTest extends Edges {
     private TurnEdgesTest() {
@@ -462,25 +464,64 @@ public final class TurnEdgesTest extends Edges {
             lay(x, 0, 1000, 0, 0);
             finds(x, SIZE, () -> x.leaves(1, 0));
         });
-        says("30: the LAYING first: its SIZE ahead of the shares' NOTHING, UNLIKE", z -> {
+        says("30: NOTHING of either ahead of SIZE, UNLIKE of the other one", z -> {
             HeavyFiles x = lent(1, 1, 1, 1);
             x.row(2, 3);
             lay(x, 3, -1, 0, 0, 0);
-            finds(x, SIZE, () -> x.leaves(2, 5), () -> x.leaves(2, 3));
+            lay(x, 4, 5, 5);
+            finds(x, NOTHING, () -> x.leaves(5, 2), () -> x.leaves(5, 3), () -> x.leaves(2, 5), () -> x.leaves(4, 5));
         });
-        says("30: the LAYING first: its UNLIKE ahead of the shares' NOTHING, SIZE", z -> {
-            HeavyFiles x = lent(1, 1, 1, 1);
-            lay(x, 2, 5, 5);
-            x.row(3, 3);
-            finds(x, UNLIKE, () -> x.leaves(2, 5), () -> x.leaves(2, 3));
-        });
-        says("30: the LAYING first: its NOTHING ahead of the shares' SIZE, UNLIKE", z -> {
+        says("30: SIZE of either ahead of UNLIKE of the other one", z -> {
             HeavyFiles x = lent(1, 1, 1, 1);
             x.row(2, 3);
             lay(x, 3, -1, 0, 0, 0);
-            finds(x, NOTHING, () -> x.leaves(5, 2), () -> x.leaves(5, 3));
+            lay(x, 4, 5, 5);
+            finds(x, SIZE, () -> x.leaves(2, 3), () -> x.leaves(4, 2));
         });
+        says("30: without SUITS: NOTHING of the shares ahead of SIZE of the LAYING", z -> {
+            HeavyFiles x = new HeavyFiles();
+            x.row(0, 1);
+            finds(x, NOTHING, () -> x.leaves(0, 1));
+        });
+        leavesByEveryPair();
         refusesLayings("30: leaves()", 1, (x, r) -> x.leaves(r, 5));
+    }
+
+    /** Whatever is wrong with the LAYING and whatever with the shares, the first FINDING that fits either. */
+    private static void leavesByEveryPair() {
+        int[][] layings = {null, {}, {5}, {5, 5, 5}, {41, -1, 0}, {5, 5}, {-1, 0}, {LOW, HIGH}, {0, 0}, {1, 1}};
+        int[][] shares = {null, {}, {1, 1, 1}, {-1, 0, 0}, {0, 0, 0, 0, 1000}, {-1, 0, 0, 0}, {0, 0, 0, 1000},
+            {LOW, HIGH, 0, 0}, {0, 0, 0, 0}, {999, 1, 1, 999}};
+        for (int[] laying : layings) {
+            for (int[] share : shares) {
+                int due = laying == null || share == null ? NOTHING
+                    : laying.length != 2 || share.length != 4 ? SIZE
+                    : laying[0] != laying[1] || laying[0] == 5 || share[0] < 0 || share[3] == 1000 ? UNLIKE : 0;
+                String pair = Arrays.toString(laying) + ", " + Arrays.toString(share);
+                says("30: NOTHING, SIZE, UNLIKE: either, in this order: " + pair, z -> leavesOne(laying, share, due));
+            }
+        }
+    }
+
+    private static void leavesOne(int[] laying, int[] share, int due) {
+        // too much in all in the second one: SPENT, unless something is found
+        HeavyFiles[] both = {lent(1, 1, 1, 1), lent(20, 20, 20, 20)};
+        for (int k = 0; k < 2; k++) {
+            HeavyFiles x = both[k];
+            if (laying != null) {
+                lay(x, 2, laying);
+            }
+            if (share != null) {
+                lay(x, 3, share);
+            }
+            if (due != 0) {
+                finds(x, due, () -> x.leaves(2, 3));
+            } else if (k == 0) {
+                takes(x.leaves(2, 3));
+            } else {
+                refuses(x, SPENT, () -> x.leaves(2, 3));
+            }
+        }
     }
 
     private static void adds(HeavyFiles x, int l, int upper, int lower) {
